@@ -7,6 +7,7 @@ public final class BoardingTest {
 
     public static void main(String[] args) {
         nobody();
+        eachBoardsAnew();
         oneWalks();
         oneGetsUpAgain();
         twoGetUpAgain();
@@ -47,6 +48,32 @@ public final class BoardingTest {
         due.is("nobody stands", x.stands(0, 1, 0), NONE);
         due.is("bound", x.bound(0, 0), 0);
         due.is("doors", x.doors(0), 0);
+    }
+
+    private static RowsIntoPlane twoBySide() {
+        RowsIntoPlane x = new RowsIntoPlane();
+        x.cabin(2, 2, 0);
+        Due.call(x, "a");
+        Due.seat(x, 0, 0, 1, 0);
+        Due.seat(x, 0, 0, 0, 0);
+        return x;
+    }
+
+    /** As the first call of its object that boards, and behind another that boarded otherwise. */
+    private static void eachBoardsAnew() {
+        due.is("sits first", twoBySide().sits(0, 0, 0), 6);
+        due.is("later first", twoBySide().later(0, 1), 3);
+        due.is("stands first", twoBySide().stands(0, 2, 0), 0);
+        due.is("bound first", twoBySide().bound(0, 3), 6);
+        due.is("doors first", twoBySide().doors(0), 6);
+        due.is("least first", twoBySide().least(), 0);
+        RowsIntoPlane x = twoBySide();
+        due.is("later", x.later(0, 1), 3);
+        due.is("sits behind later", x.sits(0, 0, 0), 6);
+        due.is("doors", x.doors(0), 6);
+        due.is("board behind doors", x.board(0, 0), 6);
+        x.cabin(2, 2, 0);
+        due.is("board of nobody", x.board(0, 0), 0);
     }
 
     private static void oneWalks() {
@@ -310,6 +337,14 @@ public final class BoardingTest {
         Due.seat(x, 0, 0, 0, 1);
         Due.seat(x, 1, 0, 0, 2);
         due.is("a row each", x.doors(0), 10);
+        x.cabin(5, 1, 0);
+        Due.seat(x, 0, 0, 0, 0);
+        Due.seat(x, 2, 0, 0, 0);
+        // The middle row is ahead: 1 comes behind 0.
+        due.is("rows 0 and 2 by one door", x.doors(0), 5);
+        x.cabin(3, 1, 1);
+        Due.seat(x, 2, 0, 0, 2);
+        due.is("the row behind has one bin", x.doors(0), 2 + 4 + 5);
     }
 
     private static void doorsTurnedRound() {

@@ -145,7 +145,7 @@ public final class CallsTest {
         Due.seat(x, 4, 1, 2, 0);
         orderIs(x, "b1", 4, 3, 2, 1, 0);
         orderIs(x, "b2", 3, 4, 1, 2, 0);
-        orderIs(x, "b9", 0, 1, 2, 3, 4);
+        orderIs(x, "b3", 2, 3, 4, 0, 1);
         orderIs(x, "f1", 0, 1, 2, 3, 4);
         orderIs(x, "w", 1, 4, 2, 3, 0);
         orderIs(x, "a", 0, 2, 3, 1, 4);
@@ -158,6 +158,7 @@ public final class CallsTest {
         Due.seat(y, 2, 0, 0, 1);
         Due.seat(y, 1, 0, 0, 0);
         Due.seat(y, 0, 0, 0, 3);
+        orderIs(y, "b9", 0, 1, 2, 3, 4);
         orderIs(y, "f2", 3, 4, 1, 2, 0);
         orderIs(y, "f3", 2, 3, 4, 0, 1);
         orderIs(y, "b3", 0, 1, 2, 3, 4);

@@ -39,6 +39,8 @@ public final class LeavingTest {
         }
         x.change(0, 5, 0);
         due.is("without bags", x.out(0), 4);
+        x.cabin(4, 2, 0);
+        due.is("nobody then", x.out(0), 0);
     }
 
     private static void outIs(RowsIntoPlane x, int manner, int... want) {

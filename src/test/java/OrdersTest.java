@@ -8,10 +8,12 @@ public final class OrdersTest {
     public static void main(String[] args) {
         bestOrder();
         bestOrderOfLikeOnes();
+        bestOrderIsTheLastOne();
         bestOrderRefused();
         bestOrderTwentyTimes();
         swap();
         swapOfSeveral();
+        swapOfOneSecondLess();
         mixedSeeds();
         mixedOrders();
         mixedRefused();
@@ -126,6 +128,32 @@ public final class OrdersTest {
         // 0, 3, 4, 1, 2 then: 4 sits in 20; if it comes first, in 18, and all others by 12.
         due.is("with one more", x.board(0, 0), 20);
         due.is("places 0 and 2", x.swap(0), 2);
+    }
+
+    private static void swapOfOneSecondLess() {
+        RowsIntoPlane x = new RowsIntoPlane();
+        x.cabin(2, 1, 0);
+        Due.call(x, "f1");
+        Due.seat(x, 0, 0, 0, 0);
+        Due.seat(x, 1, 0, 0, 0);
+        // 0 in 2, 1 in 4; exchanged, 1 in 3 and 0 in 3.
+        due.is("one second less", x.swap(0), 1);
+    }
+
+    private static void bestOrderIsTheLastOne() {
+        RowsIntoPlane x = new RowsIntoPlane();
+        x.cabin(4, 1, 0);
+        for (int i = 0; i < 4; i++) {
+            Due.seat(x, i, 0, 0, 0);
+        }
+        bestIs(x, 5, 3, 2, 1, 0);
+        RowsIntoPlane y = new RowsIntoPlane();
+        y.cabin(4, 1, 0);
+        int[] rows = {1, 3, 0, 2};
+        for (int row : rows) {
+            Due.seat(y, row, 0, 0, 0);
+        }
+        bestIs(y, 5, 1, 3, 0, 2);
     }
 
     /** The next seed, as the document tells it. */
