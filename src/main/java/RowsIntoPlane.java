@@ -2,8 +2,7 @@
 public final class RowsIntoPlane {
     public static final int NONE = -1, UNKNOWN = -101, OUTSIDE = -102, STATE = -103, FULL = -104;
 
-    private static final int LATE = 1, HASTY = 2, GROUPED = 3;
-    private static final int PERSON = 0;
+    private static final int PERSON = 0, LATE = 1, HASTY = 2, GROUPED = 3;
     private static final int BAGS = 5, WORTH = 6;
     private static final int LEAST_ROWS = 2, MOST_ROWS = 12, MOST_WIDE = 3, MOST_ROOM = 6;
     private static final int MOST_PEOPLE = 12, MOST_BAGS = 3, MOST_WORTH = 999;
@@ -859,9 +858,11 @@ public final class RowsIntoPlane {
         private static final int IN_BIN = 4, A_ROW_AWAY = 2, BELOW = 5, GETS_UP = 3;
 
         private final People people;
+        /** As numbered from the door they come through. */
         private final int[] row = new int[MOST_PEOPLE];
         private final int[] bags = new int[MOST_PEOPLE];
         private final int[] coming = new int[MOST_PEOPLE];
+        /** How many BAGS more the BIN of each ROW takes. */
         private final int[] left = new int[MOST_ROWS];
         private final int[] busy = new int[MOST_PEOPLE];
         private final int[] sat = new int[MOST_PEOPLE];
@@ -913,7 +914,7 @@ public final class RowsIntoPlane {
             return seated == many;
         }
 
-        /** Until all SIT or that second ends; those of other ROWS do not come. */
+        /** Until all SIT or that second ends; those of ROWS beyond this part do not come. */
         void run(Line line, int lastSecond) {
             begin(line);
             int came = 0;
