@@ -396,19 +396,18 @@ public final class RowsIntoPlane {
                 h = 31 * h + people.tell(i, what);
             }
         }
-        // By the document's semicolons "with a CABIN" is said of this part alone:
-        // what follows has numbers (STATE) without a CABIN, too.
+        // Without a CABIN these calls are refused: a refusal is no number that they tell.
         if (!cabin.isMissing()) {
             for (int i = 0; i < callCount; i++) {
                 h = withCall(h, i);
             }
-        }
-        for (int manner = 0; manner <= 2; manner++) {
-            h = 31 * h + out(manner);
-        }
-        h = 31 * h + least();
-        for (int what = 0; what <= 2; what++) {
-            h = 31 * h + mixed(2, 5, what);
+            for (int manner = 0; manner <= 2; manner++) {
+                h = 31 * h + out(manner);
+            }
+            h = 31 * h + least();
+            for (int what = 0; what <= 2; what++) {
+                h = 31 * h + mixed(2, 5, what);
+            }
         }
         for (int i = 0; i < page.size; i++) {
             h = 31 * h + page.letters[i];

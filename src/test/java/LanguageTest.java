@@ -1,6 +1,10 @@
 import java.io.IOException;
 import java.nio.file.Files;
 import java.nio.file.Path;
+import java.util.HashMap;
+import java.util.HashSet;
+import java.util.Map;
+import java.util.Set;
 import java.util.regex.Matcher;
 import java.util.regex.Pattern;
 
@@ -11,7 +15,12 @@ public final class LanguageTest {
         "->", "::", "\\bnew\\s+\\w+\\s*\\([^)]*\\)\\s*\\{", "\\bstatic\\s*\\{", "\\w+Exact\\b",
         "\\b(System\\.(?!arraycopy)\\w+|Thread|Runtime|Random|Object|Class|Exception|Error)\\b",
         "\\b(hashCode|toString|getClass)\\b", "\\bwhile\\s*\\(\\s*true\\b", "\\bfor\\s*\\([^;]*;\\s*;"};
+    private static final Pattern CALLED = Pattern.compile("\\b(Math|System)\\.\\w+\\(|\\b(\\w+)\\(");
+    private static final int DEEPEST = 8;
     private static final Due due = new Due();
+
+    /** By the name of a method the names that it calls; methods of one name are taken as one, which can only be deeper. */
+    private static final Map<String, Set<String>> called = new HashMap<>();
 
     public static void main(String[] args) throws IOException {
         String text = Files.readString(Path.of("src/main/java/RowsIntoPlane.java"));
@@ -24,6 +33,7 @@ public final class LanguageTest {
         }
         due.is("texts joined", Pattern.compile("\"\\s*\\+|\\+\\s*\"").matcher(code).find() ? 1 : 0, 0);
         methodsAreShort(text);
+        callsAreNotDeep();
         due.end("LanguageTest");
     }
 
@@ -43,7 +53,41 @@ public final class LanguageTest {
             }
             seen++;
             due.is("the method of line " + (i + 1) + " is short", end - i < 60 ? 1 : 0, 1);
+            noteCalls(lines, i, end);
         }
         due.is("methods were found", seen > 28 ? 1 : 0, 1);
+    }
+
+    private static void noteCalls(String[] lines, int head, int end) {
+        String name = lines[head].replaceAll("\\(.*", "").replaceAll(".*\\W", "");
+        Set<String> names = called.computeIfAbsent(name, n -> new HashSet<>());
+        for (int i = head + 1; i < end; i++) {
+            Matcher found = CALLED.matcher(lines[i].replaceAll("//.*", ""));
+            while (found.find()) {
+                names.add(found.group(1) != null ? found.group(1) : found.group(2));
+            }
+        }
+    }
+
+    /** Eight at most stand open at once, the library's own with them; the program has no recursion. */
+    private static void callsAreNotDeep() {
+        called.put("Math", Set.of());
+        called.put("System", Set.of());
+        for (String name : called.keySet()) {
+            due.is("calls from " + name + " are not deep", deepest(name, 1) <= DEEPEST ? 1 : 0, 1);
+        }
+        due.is("what digest() calls was seen", deepest("digest", 1) > 4 ? 1 : 0, 1);
+    }
+
+    private static int deepest(String name, int level) {
+        int most = level;
+        if (level <= DEEPEST) {
+            for (String next : called.get(name)) {
+                if (called.containsKey(next)) {
+                    most = Math.max(most, deepest(next, level + 1));
+                }
+            }
+        }
+        return most;
     }
 }

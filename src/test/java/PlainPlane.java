@@ -528,14 +528,16 @@ final class PlainPlane {
         for (int i = 0; i < people.size(); i++) {
             for (int what = 0; what <= 6; what++) numbers.add((long) about(i, what));
         }
-        for (int call = 0; call < calls.size() && rows > 0; call++) {
-            for (int i : orderBy(call, 3)) numbers.add((long) i);
-            for (int what = 0; what <= 2; what++) numbers.add((long) board(call, what));
-            numbers.add((long) doors(call));
+        if (rows > 0) {
+            for (int call = 0; call < calls.size(); call++) {
+                for (int i : orderBy(call, 3)) numbers.add((long) i);
+                for (int what = 0; what <= 2; what++) numbers.add((long) board(call, what));
+                numbers.add((long) doors(call));
+            }
+            for (int manner = 0; manner <= 2; manner++) numbers.add((long) out(manner));
+            numbers.add((long) least());
+            for (int what = 0; what <= 2; what++) numbers.add((long) mixed(2, 5, what));
         }
-        for (int manner = 0; manner <= 2; manner++) numbers.add((long) out(manner));
-        numbers.add((long) least());
-        for (int what = 0; what <= 2; what++) numbers.add((long) mixed(2, 5, what));
         page.chars().forEach(c -> numbers.add((long) c));
         for (int what = 0; what <= 8; what++) numbers.add((long) count(what));
         long h = 523;

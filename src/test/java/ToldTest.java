@@ -137,13 +137,25 @@ public final class ToldTest {
         due.is("digest changes nothing", x.digest(), x.digest());
     }
 
+    /** What needs a cabin is left out as a whole, refusals too: letters of the page and counts alone go in. */
     private static void digestWithoutCabin() {
         RowsIntoPlane x = new RowsIntoPlane();
-        // Without a cabin out(), least() and mixed() tell STATE; calls are left out.
-        due.is("of a new object", x.digest(), digestOf(
-            STATE, STATE, STATE, STATE, STATE, STATE, STATE, 0, 0, 0, 0, 0, 0, 0, 0, 0));
+        due.is("of a new object, as told", x.digest(), 13827922390030933L);
+        due.is("of a new object", x.digest(), digestOf(0, 0, 0, 0, 0, 0, 0, 0, 0));
+        Due.write(x, "g,~");
+        due.is("with letters", x.digest(), digestOf('g', ',', '~', 0, 0, 0, 0, 0, 3, 0, 0, 0));
+        x.blank();
         Due.call(x, "w");
-        due.is("with a call", x.digest(), digestOf(
-            STATE, STATE, STATE, STATE, STATE, STATE, STATE, 0, 0, 0, 0, 1, 0, 0, 0, 0));
+        due.is("with a call", x.digest(), digestOf(0, 0, 0, 0, 1, 0, 0, 0, 0));
+        Due.call(x, "b2,a");
+        Due.write(x, "s");
+        due.is("with calls and a letter", x.digest(), digestOf('s', 0, 0, 0, 0, 2, 1, 0, 0, 0));
+        x.cabin(1, 1, 0);
+        x.bestOrder(0);
+        due.is("a refused cabin is none", x.digest(), digestOf('s', 0, 0, 0, 0, 2, 1, 0, 0, 0));
+        x.cabin(2, 2, 0);
+        // By each call nobody boards: an empty order, 0 seconds, nothing below, no waiting, 0 by two doors.
+        due.is("with a cabin all goes in", x.digest(), digestOf(0, 0, 0, 0, 0, 0, 0, 0,
+            0, 0, 0, 0, 0, 0, 5, 's', 2, 8, 0, 0, 2, 1, 1, 0, 0));
     }
 }
