@@ -45,7 +45,8 @@ final class BoardSentences {
     }
 
     private void fromTheLastCell() {
-        said.terms("in each one first those in the aisle, from the last CELL to the first");
+        said.terms("BOARDING by THE ORDER, second by second (1, 2, ..): in each one first those in the aisle, from the last "
+            + "CELL to the first");
         RowsIntoPlane x = plane(3, 1, 0);
         Due.seat(x, 2, 0, 0, 0);
         Due.seat(x, 2, 1, 0, 0);
@@ -312,7 +313,8 @@ final class BoardSentences {
     }
 
     private void refusedByAll() {
-        said.terms("boarding (UNKNOWN: call; STATE: no CABIN)");
+        said.terms("Ahead of the calls `order`, `board`, `sits`, `stands`, `least`, `bestOrder`, `swap`, `later`, `bound`, "
+            + "`doors`, `mixed` the interface says: ---- boarding (UNKNOWN: call; STATE: no CABIN)");
         in.cabinless.refuse("order", x -> x.order(0, 0), STATE);
         in.cabinless.refuse("board", x -> x.board(0, 0), STATE);
         in.cabinless.refuse("stands", x -> x.stands(0, 1, 0), STATE);

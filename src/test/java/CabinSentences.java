@@ -40,7 +40,7 @@ final class CabinSentences {
     }
 
     private void rows() {
-        said.terms("ROWS (2 to 12, numbered from 0, the door is ahead of ROW 0)");
+        said.terms("THE CABIN has ROWS (2 to 12, numbered from 0, the door is ahead of ROW 0)");
         in.fresh.bounds("ROWS", 2, 12, (x, v) -> x.cabin(v, 1, 0), OUTSIDE);
         for (int rows = 2; rows <= 12; rows++) {
             RowsIntoPlane x = plane(rows, 1, 0);
@@ -316,7 +316,7 @@ final class CabinSentences {
     }
 
     private void about() {
-        said.promise(5, "what = 0 KIND, 1 n (NONE), 2 ROW, 3 SIDE, 4 DEPTH, 5 BAGS, 6 WORTH.");
+        said.promise(5, "Of a PERSON: what = 0 KIND, 1 n (NONE), 2 ROW, 3 SIDE, 4 DEPTH, 5 BAGS, 6 WORTH.");
         RowsIntoPlane x = plane(12, 3, 0);
         int[][] told = {{0, NONE, 0, 0, 0, 0, 0}, {1, NONE, 11, 1, 2, 3, 999}, {2, NONE, 5, 0, 1, 1, 1},
             {3, 2, 11, 0, 2, 2, 998}};

@@ -22,6 +22,7 @@ final class CallSentences {
         orderOfKinds();
         orderByKeys();
         likeOnes();
+        rowsAtATime();
         orderByRowsAtATime();
         orderOfGroups();
         letters();
@@ -56,7 +57,7 @@ final class CallSentences {
     }
 
     private void calls() {
-        said.terms("CALLS (8 at most, numbered)");
+        said.terms("CALLS (8 at most, numbered) are texts");
         RowsIntoPlane x = new RowsIntoPlane();
         for (int i = 0; i < 8; i++) {
             said.is("the number", Due.call(x, "w"), i);
@@ -140,7 +141,7 @@ final class CallSentences {
     }
 
     private void orderOfKinds() {
-        said.terms("HASTY ones ahead of all, LATE ones behind all");
+        said.terms("THE ORDER by a CALL: HASTY ones ahead of all, LATE ones behind all");
         RowsIntoPlane x = new RowsIntoPlane();
         x.cabin(12, 1, 0);
         x.person(1, NONE, 11, 0, 0, 0, 0);
@@ -192,6 +193,37 @@ final class CallSentences {
             Due.seat(x, seat[0], seat[1], seat[2], seat[3]);
         }
         return x;
+    }
+
+    /** Of a group of ROWS all come, by number, ahead of the next group; the last one has those that are left. */
+    private void rowsAtATime() {
+        said.terms("\"b\" or \"f\" and a number (1 to 9): so many ROWS at a time from the back, from the front");
+        for (int rows = 2; rows <= 12; rows++) {
+            for (int n = 1; n <= 9; n++) {
+                RowsIntoPlane x = new RowsIntoPlane();
+                x.cabin(rows, 1, 0);
+                // By number the even rows, then the others.
+                int half = (rows + 1) / 2;
+                for (int i = 0; i < rows; i++) {
+                    Due.seat(x, i < half ? 2 * i : 2 * (i - half) + 1, 0, 0, 0);
+                }
+                groupsAre(x, "f" + n, rows, n, true);
+                groupsAre(x, "b" + n, rows, n, false);
+            }
+        }
+    }
+
+    private void groupsAre(RowsIntoPlane x, String text, int rows, int n, boolean fromTheFront) {
+        int call = Due.call(x, text);
+        for (int i = 0; i < rows; i++) {
+            int row = x.about(x.order(call, i), 2);
+            int ahead = fromTheFront ? row : rows - 1 - row;
+            said.is(text + " of " + rows + " at " + i + ", by groups", ahead / n, i / n);
+            if (i % n > 0) {
+                boolean byNumber = x.order(call, i) > x.order(call, i - 1);
+                said.isTrue(text + " of " + rows + " at " + i + ", by number", byNumber);
+            }
+        }
     }
 
     private void orderByRowsAtATime() {

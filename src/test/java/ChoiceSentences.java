@@ -337,7 +337,7 @@ final class ChoiceSentences {
     }
 
     private void doorsByHalf() {
-        said.terms("those of ROWS from half of ROWS (rounded up) on come through that one");
+        said.terms("DOORS: with a door behind, too: those of ROWS from half of ROWS (rounded up) on come through that one");
         for (int rows = 2; rows <= 12; rows++) {
             int half = (rows + 1) / 2;
             for (int row = 0; row < rows; row++) {
@@ -414,7 +414,7 @@ final class ChoiceSentences {
     }
 
     private void seeds() {
-        said.terms("1103515245 times it and 12345, its rest by 2 to the 31.");
+        said.terms("By a SEED: again and again the next one: 1103515245 times it and 12345, its rest by 2 to the 31.");
         RowsIntoPlane x = plane(12, 1, 0);
         Due.seat(x, 0, 0, 0, 0);
         Due.seat(x, 1, 0, 0, 0);

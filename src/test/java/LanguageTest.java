@@ -16,7 +16,9 @@ public final class LanguageTest {
         "\\b(System\\.(?!arraycopy)\\w+|Thread|Runtime|Random|Object|Class|Exception|Error)\\b",
         "\\b(hashCode|toString|getClass)\\b", "\\bwhile\\s*\\(\\s*true\\b", "\\bfor\\s*\\([^;]*;\\s*;"};
     private static final Pattern CALLED = Pattern.compile("\\b(Math|System)\\.\\w+\\(|\\b(\\w+)\\(");
-    private static final int DEEPEST = 8;
+    /** The library that the program uses, of all that rule 4 leaves. */
+    private static final Set<String> LIBRARY = Set.of("Math.max", "Math.min", "Math.abs", "System.arraycopy");
+    private static final int DEEPEST = 8, MOST_TAKEN = 7;
     private static final Due due = new Due();
 
     /** By the name of a method the names that it calls; methods of one name are taken as one, which can only be deeper. */
@@ -32,9 +34,25 @@ public final class LanguageTest {
             due.is("found " + forbidden + (has ? ": " + found.group() : ""), has ? 1 : 0, 0);
         }
         due.is("texts joined", Pattern.compile("\"\\s*\\+|\\+\\s*\"").matcher(code).find() ? 1 : 0, 0);
+        namesAreItsOwn(code);
         methodsAreShort(text);
         callsAreNotDeep();
         due.end("LanguageTest");
+    }
+
+    /** Rules 3 and 4: a name that begins as a class's does is one of its own, or of the library that is left. */
+    private static void namesAreItsOwn(String code) {
+        Set<String> own = new HashSet<>();
+        Matcher declared = Pattern.compile("\\bclass (\\w+)").matcher(code);
+        while (declared.find()) {
+            own.add(declared.group(1));
+        }
+        due.is("the class was found", own.contains("RowsIntoPlane") ? 1 : 0, 1);
+        Matcher name = Pattern.compile("\\b([A-Z]\\w*[a-z]\\w*)(\\.\\w+)?").matcher(code);
+        while (name.find()) {
+            boolean isLeft = own.contains(name.group(1)) || LIBRARY.contains(name.group());
+            due.is(name.group() + " is its own or the library's", isLeft ? 1 : 0, 1);
+        }
     }
 
     /** Some sixty lines at most, from the line that opens a method to the one that closes it. */
@@ -53,9 +71,22 @@ public final class LanguageTest {
             }
             seen++;
             due.is("the method of line " + (i + 1) + " is short", end - i < 60 ? 1 : 0, 1);
+            int taken = lines[i].contains("()") ? 0 : lines[i].split(",").length;
+            due.is("the method of line " + (i + 1) + " takes no more than seven", taken <= MOST_TAKEN ? 1 : 0, 1);
             noteCalls(lines, i, end);
+            if (!lines[i].matches(" *(public )?[A-Z]\\w*\\(.*")) {
+                makesNothing(lines, i, end);
+            }
         }
         due.is("methods were found", seen > 28 ? 1 : 0, 1);
+    }
+
+    /** All is made with the object: however many calls there are, they take no more room. */
+    private static void makesNothing(String[] lines, int head, int end) {
+        for (int i = head + 1; i < end; i++) {
+            boolean makes = lines[i].replaceAll("//.*", "").matches(".*\\b(new|clone|copyOf\\w*)\\b.*");
+            due.is("line " + (i + 1) + " makes no object", makes ? 1 : 0, 0);
+        }
     }
 
     private static void noteCalls(String[] lines, int head, int end) {

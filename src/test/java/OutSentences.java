@@ -39,8 +39,8 @@ final class OutSentences {
     }
 
     private void fromCellZero() {
-        said.terms("first those in the aisle, from CELL 0 on: who is BUSY has one second less to go; else from CELL 0 one "
-            + "goes OUT, from another one to the CELL ahead, if that is empty.");
+        said.terms("OUT, second by second, all SIT: in each one first those in the aisle, from CELL 0 on: who is BUSY has "
+            + "one second less to go; else from CELL 0 one goes OUT, from another one to the CELL ahead, if that is empty.");
         RowsIntoPlane x = plane(3, 1);
         Due.seat(x, 0, 0, 0, 0);
         Due.seat(x, 1, 0, 0, 0);
